@@ -198,7 +198,10 @@ public final class NotationPress {
         Text text = fileOf(file);
         if (told == null) throw new IndexOutOfBoundsException("no such description");
         if (text == null || !text.hasPlace(place)) throw new IndexOutOfBoundsException("no such file or place");
-        return Math.min(reader.countAll(told.items, text, place), MOST_TOLD_READINGS);
+        int found = 0;
+        reader.begin(told.items, text, place);
+        for (int i = 0; i < MOST_WAYS && reader.goToNext(); i++) found++;
+        return reader.tooFar ? -1 : Math.min(found, MOST_TOLD_READINGS);
     }
 
     public int readingsAnew(int description, int file, int place) throws IndexOutOfBoundsException {
@@ -206,7 +209,8 @@ public final class NotationPress {
         Text text = fileOf(file);
         if (told == null) throw new IndexOutOfBoundsException("no such description");
         if (text == null || !text.hasPlace(place)) throw new IndexOutOfBoundsException("no such file or place");
-        return Math.min(reader.countItemByItem(told.items, text, place), MOST_TOLD_READINGS);
+        reader.begin(told.items, text, place);
+        return Math.min(reader.countItemByItem(), MOST_TOLD_READINGS);
     }
 
     public int read(int description, int file, int place, int index) throws IndexOutOfBoundsException {
@@ -214,7 +218,11 @@ public final class NotationPress {
         Text text = fileOf(file);
         if (told == null) throw new IndexOutOfBoundsException("no such description");
         if (text == null || !text.hasPlace(place)) throw new IndexOutOfBoundsException("no such file or place");
-        if (!reader.comeTo(told.items, text, place, index)) throw new IndexOutOfBoundsException("no such reading");
+        if (index < 0) throw new IndexOutOfBoundsException("no such reading");
+        int found = -1;
+        reader.begin(told.items, text, place);
+        for (int i = 0; i < MOST_WAYS && found < index && reader.goToNext(); i++) found++;
+        if (found < index) throw new IndexOutOfBoundsException("no such reading");
         copyCells(reader.current.values, 0, record, 0, CELLS);
         return place + reader.current.length;
     }
@@ -240,14 +248,12 @@ public final class NotationPress {
         int end = text.endOfLine(table.place);
         if (end < 0) return text.open ? WAITS : ENDED;
         if (table.isFull()) throw new IllegalStateException("no more rows");
-        reader.readLine(told, text, table.place, end);
-        int behind = Math.min(end + 1, text.length);
-        if (reader.why == 0 && reader.right > 0) {
-            table.addRow(reader.row, reader.right > 1, behind);
-            return READ;
+        table.beginLine();
+        reader.begin(told.items, text, table.place);
+        for (int i = 0; i < MOST_WAYS && reader.goToNext(); i++) {
+            if (table.place + reader.current.length == end) table.weigh(reader.current.values);
         }
-        table.addSkipped(reader.why, behind);
-        return SKIPPED;
+        return table.endLine(reader.tooFar, Math.min(end + 1, text.length)) ? READ : SKIPPED;
     }
 
     public int progress(int file) throws IndexOutOfBoundsException {
@@ -833,17 +839,16 @@ public final class NotationPress {
             for (int i = 0; i < MOST_STEPS && !trace.isOver(items); i++) {
                 if (items.embraces(trace.item)) {
                     trace.enter(items);
-                } else if (printItem(items, record)) {
-                    trace.finish(items);
                 } else {
-                    return false;
+                    boolean written = items.hasSlot(trace.item) ? printSlot(items, record) : printSign(items);
+                    if (!written) return false;
+                    trace.finish(items);
                 }
             }
             return trace.isOver(items);
         }
 
-        private boolean printItem(Items items, int[] record) {
-            if (items.hasSlot(trace.item)) return printSlot(items, record);
+        private boolean printSign(Items items) {
             int a = items.a(trace.item);
             switch (items.kind(trace.item)) {
                 case CHECK: return write(trace.checkDigit());
@@ -890,15 +895,12 @@ public final class NotationPress {
             if (!isWord(word) || unitsOfWord(word) > width) return false;
             int rest = word;
             for (int i = 0; i < MOST_LETTERS && rest != 0; i++) {
-                if (!writeLetter(rest & 31)) return false;
+                int letter = rest & 31;
+                boolean written = letter == FACE ? write(FACE_HIGH) && write(FACE_LOW) : write('a' + letter - 1);
+                if (!written) return false;
                 rest >>>= 5;
             }
             return true;
-        }
-
-        private boolean writeLetter(int letter) {
-            if (letter == FACE) return write(FACE_HIGH) && write(FACE_LOW);
-            return write('a' + letter - 1);
         }
 
         private boolean writeFills(int fill, int count) {
@@ -928,31 +930,46 @@ public final class NotationPress {
         private final int[] number = new int[MOST_WIDTH];
         private final int[] words = new int[MOST_LETTERS + 1];
         private final int[] wordEnds = new int[MOST_LETTERS + 1];
-        private final int[] row = emptyCells();
         private Items items = new Items();
         private Text text = new Text();
         private int place;
         private int kept;
         private int begun;
         private boolean tooFar;
-        private int right;
-        private int why;
 
         Reader() {
             for (int i = 0; i < beginnings.length; i++) beginnings[i] = new Trace();
         }
 
-        /** How many readings there are, -1 if it takes too far. */
-        int countAll(Items told, Text from, int start) {
-            restart(told, from, start);
-            int found = 0;
-            for (int i = 0; i < MOST_WAYS && goToNext(); i++) found++;
-            return tooFar ? -1 : found;
+        /** Begins with the readings from a place: goToNext() goes to each, the first one at first. */
+        void begin(Items told, Text from, int start) {
+            items = told;
+            text = from;
+            place = start;
+            begun = 0;
+            tooFar = false;
+            Trace first = beginningAt(0);
+            if (first != null) first.restart();
+            kept = first == null ? 0 : 1;
         }
 
-        /** The same, with the beginnings in a row, each gone on with by one item; none is given up till the end. */
-        int countItemByItem(Items told, Text from, int start) {
-            restart(told, from, start);
+        /** Goes on, with the latest beginning first, until the current one is a whole reading. */
+        boolean goToNext() {
+            for (int i = 0; i < MOST_WAYS && kept > 0 && !tooFar; i++) {
+                kept--;
+                Trace next = beginningAt(kept);
+                if (next == null) return false;
+                current.copyFrom(next);
+                if (current.isOver(items)) return true;
+                begun++;
+                tooFar = begun > MOST_BEGUN;
+                if (!tooFar) branch();
+            }
+            return false;
+        }
+
+        /** How many readings there are, -1 if it takes too far; the beginnings are kept in a row, none is given up. */
+        int countItemByItem() {
             int found = 0;
             for (int i = 0; i < kept && kept <= MOST_BEGUN; i++) {
                 Trace next = beginningAt(i);
@@ -970,74 +987,8 @@ public final class NotationPress {
             return kept > MOST_BEGUN ? -1 : found;
         }
 
-        /** Makes a reading the current one; tells whether it was found ahead of what takes too far. */
-        boolean comeTo(Items told, Text from, int start, int index) {
-            if (index < 0) return false;
-            restart(told, from, start);
-            for (int i = 0; i < MOST_WAYS && goToNext(); i++) {
-                if (i == index) return true;
-            }
-            return false;
-        }
-
-        /** Counts the right readings that end just at a place, keeps the first one, and tells why if there is none. */
-        void readLine(Description told, Text from, int start, int end) {
-            restart(told.items, from, start);
-            right = 0;
-            why = 0;
-            for (int i = 0; i < MOST_WAYS && goToNext(); i++) {
-                if (start + current.length == end) weigh(told);
-            }
-            if (right > 0) why = 0;
-            if (tooFar) why = TOO_FAR;
-        }
-
-        private void weigh(Description told) {
-            int message = told.firstBroken(current.values);
-            if (message == 0) {
-                if (right == 0) copyCells(current.values, 0, row, 0, CELLS);
-                right++;
-            } else if (why == 0) {
-                why = message;
-            }
-        }
-
-        private void restart(Items told, Text from, int start) {
-            items = told;
-            text = from;
-            place = start;
-            begun = 0;
-            tooFar = false;
-            kept = 0;
-            current.restart();
-            keepCurrent();
-        }
-
-        /** Goes on, with the latest beginning first, until the current one is a whole reading. */
-        private boolean goToNext() {
-            for (int i = 0; i < MOST_WAYS && kept > 0 && !tooFar; i++) {
-                kept--;
-                Trace next = beginningAt(kept);
-                if (next == null) return false;
-                current.copyFrom(next);
-                if (current.isOver(items)) return true;
-                begun++;
-                tooFar = begun > MOST_BEGUN;
-                if (!tooFar) branch();
-            }
-            return false;
-        }
-
         private Trace beginningAt(int number) {
             return number >= 0 && number < beginnings.length ? beginnings[number] : null;
-        }
-
-        private Trace keepCurrent() {
-            Trace next = beginningAt(kept);
-            if (next == null) return null;
-            next.copyFrom(current);
-            kept++;
-            return next;
         }
 
         /** Keeps all ways to go on by one item, the first one last, so that it is the next one to be gone on with. */
@@ -1056,31 +1007,29 @@ public final class NotationPress {
         }
 
         private void enter() {
-            Trace next = keepCurrent();
-            if (next != null) next.enter(items);
+            Trace next = beginningAt(kept);
+            if (next == null) return;
+            next.copyFrom(current);
+            next.enter(items);
+            kept++;
         }
 
         private int ahead(int offset) {
             return text.unitAt(place + current.length + offset);
         }
 
-        /** Keeps the way on which the item takes so many units. */
-        private void keepTaken(int taken) {
-            if (current.length + taken > MOST_UNITS) return;
-            Trace next = keepCurrent();
-            if (next == null) return;
+        /** Keeps the way on which the item takes so many units and, if it has a slot, tells that value for it. */
+        private void keepWay(int slot, int value, int taken) {
+            Trace next = beginningAt(kept);
+            if (next == null || current.length + taken > MOST_UNITS) return;
+            next.copyFrom(current);
+            if (slot != NO_SLOT) {
+                next.begin(slot);
+                next.keep(slot, value);
+            }
             for (int i = 0; i < taken; i++) next.append(ahead(i));
             next.finish(items);
-        }
-
-        /** The same for an item with a slot, which has that value then. */
-        private void keepValue(int value, int taken) {
-            int slot = items.a(current.item);
-            int before = at(current.values, cellPlace(slot, current.round), NOTHING);
-            current.begin(slot);
-            current.keep(slot, value);
-            keepTaken(taken);
-            current.keep(slot, before);
+            kept++;
         }
 
         private void readNumber() {
@@ -1093,15 +1042,16 @@ public final class NotationPress {
             for (int i = 0; i < width; i++) {
                 if (ahead(i) != at(number, i, 0)) return;
             }
-            keepValue(value, width);
+            keepWay(items.a(current.item), value, width);
         }
 
         private void readWord() {
             int width = items.b(current.item);
             int fill = fillOfWord(items.c(current.item));
+            int slot = items.a(current.item);
             int letters = gatherWords(width);
             for (int i = 0; i <= letters; i++) {
-                if (areFills(at(wordEnds, i, width), width, fill)) keepValue(at(words, i, 0), width);
+                if (areFills(at(wordEnds, i, width), width, fill)) keepWay(slot, at(words, i, 0), width);
             }
         }
 
@@ -1114,9 +1064,10 @@ public final class NotationPress {
 
         private void readOpen() {
             int sign = items.b(current.item);
+            int slot = items.a(current.item);
             for (int i = gatherWords(MOST_UNITS); i >= 0; i--) {
                 int end = at(wordEnds, i, MOST_UNITS);
-                if (ahead(end) == sign) keepValue(at(words, i, 0), end + 1);
+                if (ahead(end) == sign) keepWay(slot, at(words, i, 0), end + 1);
             }
         }
 
@@ -1148,21 +1099,21 @@ public final class NotationPress {
                 if (ahead(i) == 'x') value |= 1 << i;
                 else if (ahead(i) != '-') return;
             }
-            keepValue(value, width);
+            keepWay(items.a(current.item), value, width);
         }
 
         private void readCount() {
             int value = ahead(0) - '0';
-            if (isBetween(value, 0, ROUNDS)) keepValue(value, 1);
+            if (isBetween(value, 0, ROUNDS)) keepWay(items.a(current.item), value, 1);
         }
 
         private void readUnit(int unit) {
-            if (ahead(0) == unit) keepTaken(1);
+            if (ahead(0) == unit) keepWay(NO_SLOT, 0, 1);
         }
 
         private void readPlace(int start) {
             if (!isBetween(start, 0, 99)) return;
-            if (ahead(0) == '0' + start / 10 && ahead(1) == '0' + start % 10) keepTaken(2);
+            if (ahead(0) == '0' + start / 10 && ahead(1) == '0' + start % 10) keepWay(NO_SLOT, 0, 2);
         }
     }
 
@@ -1294,6 +1245,8 @@ public final class NotationPress {
         private int rowCount;
         private int doubts;
         private int skippedCount;
+        private int right;
+        private int why;
 
         Table() {
             fillAll(bucketFirst, NO_ROW);
@@ -1327,18 +1280,35 @@ public final class NotationPress {
             return told(row, cellPlace(slot, 0));
         }
 
-        void addRow(int[] values, boolean doubtful, int behind) {
-            copyCells(values, 0, rows, rowCount * CELLS, CELLS);
-            rowCount++;
-            if (doubtful) doubts++;
-            place = behind;
-            for (int slot = 0; slot < SLOTS; slot++) addToIndex(slot, rowCount - 1);
+        void beginLine() {
+            right = 0;
+            why = 0;
         }
 
-        void addSkipped(int why, int behind) {
-            put(ledger, skippedCount, 1000000 * why + 1000 * place + behind);
-            skippedCount++;
+        /** Looks at a reading of the whole line: the first right one is laid behind the rows. */
+        void weigh(int[] values) {
+            int message = description == null ? 0 : description.firstBroken(values);
+            if (message != 0) {
+                if (why == 0) why = message;
+                return;
+            }
+            if (right == 0) copyCells(values, 0, rows, rowCount * CELLS, CELLS);
+            right++;
+        }
+
+        /** Tells whether the line has become a row; if not, the ledger has it. */
+        boolean endLine(boolean tooFar, int behind) {
+            boolean isRead = right > 0 && !tooFar;
+            if (isRead) {
+                rowCount++;
+                if (right > 1) doubts++;
+                for (int slot = 0; slot < SLOTS; slot++) addToIndex(slot, rowCount - 1);
+            } else {
+                put(ledger, skippedCount, 1000000 * (tooFar ? TOO_FAR : why) + 1000 * place + behind);
+                skippedCount++;
+            }
             place = behind;
+            return isRead;
         }
 
         private static int bucketOf(int slot, int value) {
@@ -1672,8 +1642,10 @@ public final class NotationPress {
         private void addReversed(Upgrade other, int oldSlot) {
             for (int slot = 0; slot < SLOTS; slot++) {
                 int depth = findPath(other, slot, oldSlot);
+                for (int i = depth - 1; i >= 0; i--) {
+                    add(reversedKind(at(pathKinds, i, NO_KIND)), at(pathNumbers, i, 0));
+                }
                 if (depth >= 0) {
-                    for (int i = depth - 1; i >= 0; i--) add(reversedKind(at(pathKinds, i, NO_KIND)), at(pathNumbers, i, 0));
                     add(OLD_SLOT, slot);
                     return;
                 }

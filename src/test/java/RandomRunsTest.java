@@ -5,6 +5,7 @@ import java.util.Random;
 
 /**
  * Asks NotationPress and PlainPress the same calls, drawn with fixed seeds, 512 for each object.
+ * Each run has a theme, so that tables, upgrades, readings and samples are come to in their depth as well.
  * With numbers as arguments: the first seed, and how many runs.
  */
 public final class RandomRunsTest {
@@ -51,6 +52,16 @@ public final class RandomRunsTest {
     }
 
     private void go() {
+        switch (run % 5) {
+            case 1: goOverTables(); break;
+            case 2: goOverUpgrades(); break;
+            case 3: goOverReadings(); break;
+            case 4: goOverSamples(); break;
+            default: goOverAll(); break;
+        }
+    }
+
+    private void goOverAll() {
         int kinds = 1 + below(3);
         for (int i = 0; i < kinds; i++) makeDescription();
         while (calls < CALLS) act();
@@ -77,10 +88,119 @@ public final class RandomRunsTest {
         }
     }
 
+    /** Short lines, so that there are many rows; keys that come again, and values that are not there. */
+    private void goOverTables() {
+        int same = below(8);
+        List<int[]> items = new ArrayList<>();
+        items.add(oneIn(2) ? new int[] {6, same, 0, 0} : new int[] {3, same, 1 + below(2), 0});
+        int[] cased = {0, (same + 1) % 8, 1, 0};
+        items.add(new int[] {8, same, 1, below(3)});
+        items.add(cased);
+        if (oneIn(2)) items.add(new int[] {2, (same + 2) % 8, pick('a', ';'), 0});
+        makeOf(items);
+        for (int f = 0; f < 2; f++) {
+            int file = f;
+            ask("stream(" + f + ", 0)", () -> press.stream(file, 0), () -> plain.stream(file, 0));
+        }
+        for (int i = 0; i < 6; i++) {
+            int f = below(2);
+            int kind = below(4);
+            int slot = oneIn(3) ? cased[1] : same;
+            int window = 1 + below(5);
+            ask("column(" + f + ", " + kind + ", " + slot + ", " + window + ")",
+                () -> press.column(f, kind, slot, window), () -> plain.column(f, kind, slot, window));
+        }
+        while (calls < CALLS) {
+            switch (below(12)) {
+                case 0: case 1: case 2: sampleAndPrint(); steps(); break;
+                case 3: typeText(below(2), pick(0, 1) == 0 ? "0\n" : "1" + below(10) + "a\n"); break;
+                case 4: typeText(below(2), "-x".charAt(below(2)) + "x" + "a;\n"); steps(); break;
+                case 5: case 6: steps(); break;
+                case 7: lookAtTable(); break;
+                case 8: lookAtColumns(below(24)); break;
+                case 9: case 10: compareAndFind(same); compareAndFind(cased[1]); break;
+                default: if (oneIn(3)) constrain(); else if (oneIn(5)) stream(); break;
+            }
+        }
+    }
+
+    private void goOverUpgrades() {
+        while (calls < CALLS) {
+            int what = below(8);
+            int one = below(8);
+            int two = below(8);
+            if (what == 0) {
+                int steps = 3 + below(6);
+                for (int i = 0; i < steps; i++) change();
+                ask("upgrade()", () -> press.upgrade(), () -> plain.upgrade());
+            } else if (what < 4) {
+                ask("compose(" + one + ", " + two + ")", () -> press.compose(one, two), () -> plain.compose(one, two));
+            } else if (what == 4) {
+                ask("reverse(" + one + ")", () -> press.reverse(one), () -> plain.reverse(one));
+            } else {
+                for (int i = 0; i < 8; i++) {
+                    if (oneIn(2)) put(i, 0, oneIn(9) ? NOTHING : oneIn(4) ? random.nextInt() : below(20000) - 10000);
+                }
+                lookAtUpgrade(one);
+            }
+        }
+    }
+
+    /** Words with doubtful ends, over texts of few letters. */
+    private void goOverReadings() {
+        for (int d = 0; d < 4; d++) {
+            List<int[]> items = new ArrayList<>();
+            int size = 2 + below(4);
+            for (int slot = 0; slot < size; slot++) {
+                items.add(oneIn(2) ? new int[] {1, slot, 1 + below(7), 2} : new int[] {2, slot, pick('a', 'a', 'b'), 0});
+                if (oneIn(6)) items.add(new int[] {9, slot, 0, 0});
+            }
+            if (oneIn(3)) {
+                items.add(0, new int[] {6, 7, 0, 0});
+                items.add(1 + below(items.size()), new int[] {7 + below(2), 7, 1, 0});
+            }
+            makeOf(items);
+        }
+        while (calls < CALLS) {
+            StringBuilder text = new StringBuilder();
+            if (oneIn(5)) text.append(below(4));
+            int size = 1 + below(22);
+            for (int i = 0; i < size; i++) text.append(oneIn(5) ? pick('b', 'c', '0', '1') == 'b' ? 'b' : 'a' : 'a');
+            typeText(below(2), text + "\n");
+            for (int i = 0; i < 3; i++) readings();
+            read();
+            if (oneIn(4)) stream();
+            steps();
+            lookAtTable();
+            if (oneIn(3)) fillAndPrint();
+        }
+    }
+
+    private void goOverSamples() {
+        for (int d = 0; d < 3; d++) {
+            List<int[]> items = soundItems();
+            makeOf(items);
+            for (int i = 0; i < 6; i++) constrain();
+        }
+        while (calls < CALLS) {
+            sampleAndPrint();
+            int d = someDescription();
+            ask("message(" + d + ")", () -> press.message(d), () -> plain.message(d));
+            if (oneIn(4)) {
+                stream();
+                lookAtTable();
+            }
+            if (oneIn(6)) constrain();
+        }
+    }
+
     // descriptions
 
     private void makeDescription() {
-        List<int[]> items = oneIn(6) ? wildItems() : soundItems();
+        makeOf(oneIn(6) ? wildItems() : soundItems());
+    }
+
+    private void makeOf(List<int[]> items) {
         List<int[]> taken = new ArrayList<>();
         for (int[] i : items) {
             boolean there = ask("item(" + i[0] + ", " + i[1] + ", " + i[2] + ", " + i[3] + ")",
@@ -353,7 +473,10 @@ public final class RandomRunsTest {
             ask("column(" + f + ", " + kind + ", " + slot + ", " + window + ")",
                 () -> press.column(f, kind, slot, window), () -> plain.column(f, kind, slot, window));
         }
-        int row = below(8) - (oneIn(10) ? 1 : 0);
+        lookAtColumns(below(8) - (oneIn(10) ? 1 : 0));
+    }
+
+    private void lookAtColumns(int row) {
         for (int i = 0; i < 6; i++) {
             int c = oneIn(30) ? pick(-1, 6) : i;
             ask("derived(" + c + ", " + row + ")", () -> press.derived(c, row), () -> plain.derived(c, row));
@@ -377,13 +500,17 @@ public final class RandomRunsTest {
         } else if (what == 3) {
             ask("reverse(" + one + ")", () -> press.reverse(one), () -> plain.reverse(one));
         } else {
-            ask("parts(" + one + ")", () -> press.parts(one), () -> plain.parts(one));
             if (oneIn(3)) put(below(8), 0, oneIn(3) ? random.nextInt() : below(2000) - 1000);
-            for (int i = 0; i < 8; i++) {
-                int slot = oneIn(30) ? pick(-1, 8) : i;
-                ask("upgraded(" + one + ", " + slot + ")",
-                    () -> press.upgraded(one, slot), () -> plain.upgraded(one, slot));
-            }
+            lookAtUpgrade(one);
+        }
+    }
+
+    private void lookAtUpgrade(int number) {
+        ask("parts(" + number + ")", () -> press.parts(number), () -> plain.parts(number));
+        for (int i = 0; i < 8; i++) {
+            int slot = oneIn(30) ? pick(-1, 8) : i;
+            ask("upgraded(" + number + ", " + slot + ")",
+                () -> press.upgraded(number, slot), () -> plain.upgraded(number, slot));
         }
     }
 
@@ -398,7 +525,10 @@ public final class RandomRunsTest {
     }
 
     private void compareAndFind() {
-        int slot = oneIn(30) ? pick(-1, 8) : below(8);
+        compareAndFind(oneIn(30) ? pick(-1, 8) : below(8));
+    }
+
+    private void compareAndFind(int slot) {
         ask("compare(" + slot + ")", () -> press.compare(slot), () -> plain.compare(slot));
         int f = below(2);
         int value = below(8);
