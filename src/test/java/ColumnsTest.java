@@ -8,6 +8,7 @@ public final class ColumnsTest {
         greatest();
         differences();
         columnsOfTheOtherFile();
+        missingAtFirst();
         manyRows();
         greatNumbers();
         columnsGoOnWithTheStream();
@@ -86,6 +87,29 @@ public final class ColumnsTest {
         Due.answer("derivedByBatch()", x.derivedByBatch(1, 7), 13);
         Due.answer("no values", x.derived(2, 7), NOTHING);
         Due.answer("no values", x.derivedByBatch(2, 7), NOTHING);
+    }
+
+    /** None in the first two rows, then 8 and 9; in a stream behind that, 3 and none. */
+    private static void missingAtFirst() {
+        NotationPress x = Notes.press(Notes.items(3, 2, 1, 0, 8, 2, 1, 1, 0, 3, 1, 0),
+            Notes.items(5, 'k', 0, 0, 3, 2, 1, 0, 8, 2, 1, 1, 0, 3, 1, 0));
+        Notes.type(x, 0, "-\n-\nx8\nx9\nkx3\nk-\n");
+        for (int kind = 0; kind < 4; kind++) x.column(0, kind, 3, 2);
+        x.stream(0, 0);
+        for (int i = 0; i < 4; i++) x.step(0);
+        int[][] due = {{NOTHING, NOTHING, NOTHING, NOTHING}, {NOTHING, NOTHING, 8, 17}, {NOTHING, NOTHING, 8, 9},
+            {NOTHING, NOTHING, NOTHING, 1}};
+        for (int i = 0; i < 16; i++) {
+            Due.answer("derived", x.derived(i / 4, i % 4), due[i / 4][i % 4]);
+            Due.answer("derivedByBatch", x.derivedByBatch(i / 4, i % 4), due[i / 4][i % 4]);
+        }
+        x.stream(0, 1);
+        for (int i = 0; i < 6; i++) x.step(0);
+        int[][] then = {{NOTHING, NOTHING}, {3, 3}, {3, 3}, {NOTHING, NOTHING}};
+        for (int i = 0; i < 8; i++) {
+            Due.answer("derived in a new stream", x.derived(i / 2, i % 2), then[i / 2][i % 2]);
+            Due.answer("derivedByBatch in a new stream", x.derivedByBatch(i / 2, i % 2), then[i / 2][i % 2]);
+        }
     }
 
     private static void manyRows() {

@@ -143,6 +143,8 @@ public final class DescriptionsTest {
         isNone("a case in a loop", 6, 0, 0, 0, 7, 0, 2, 0, 8, 0, 1, 0, 4, 0, 0, 0);
         isNone("a loop in a case", 6, 0, 0, 0, 8, 0, 2, 0, 7, 0, 1, 0, 4, 0, 0, 0);
         isNone("a case in a case", 6, 0, 0, 0, 8, 0, 2, 0, 8, 0, 1, 0, 4, 0, 0, 0);
+        isNone("a case last in a loop", 6, 0, 0, 0, 7, 0, 2, 0, 4, 0, 0, 0, 8, 0, 1, 0, 4, 0, 0, 0);
+        isNone("a loop last in a case", 6, 0, 0, 0, 8, 0, 3, 0, 4, 0, 0, 0, 4, 0, 0, 0, 7, 0, 1, 0, 4, 0, 0, 0);
         isNone("a loop by nothing", 7, 0, 1, 0, 4, 0, 0, 0);
         isNone("a loop by a count behind it", 7, 0, 1, 0, 4, 0, 0, 0, 6, 0, 0, 0);
         isNone("a loop by its own count", 7, 0, 1, 0, 6, 0, 0, 0);

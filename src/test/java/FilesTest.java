@@ -15,6 +15,7 @@ public final class FilesTest {
         printPlaces();
         printLoopsAndCases();
         printSixtyUnits();
+        printOneUnitTooMuch();
         printThrows();
         printIntoAFullFile();
         close();
@@ -236,6 +237,10 @@ public final class FilesTest {
             0, 6, 8, 1, 0, 7, 1, 1, 9, 7, 0, 0));
         for (int i = 0; i < 8; i++) y.set(i, 0, 0);
         Notes.prints("0".repeat(57) + "56", y, 0);
+        Due.answer("read()", y.read(0, 0, 0, 0), 59);
+        Notes.type(y, 1, "0".repeat(57) + "55\n" + "0".repeat(57) + "65\n");
+        Due.answer("another place", y.readings(0, 1, 0), 0);
+        Due.answer("another place", y.readings(0, 1, 60), 0);
     }
 
     private static void printLoopsAndCases() {
@@ -294,6 +299,30 @@ public final class FilesTest {
         Due.answer("readings of 61 units", y.readings(1, 0, 0), 0);
         Due.answer("readingsAnew of 61 units", y.readingsAnew(1, 0, 0), 0);
         Due.answer("read() of 60 units", y.read(0, 0, 0, 0), 60);
+    }
+
+    /** Behind 57 units each of these items has four. */
+    private static void printOneUnitTooMuch() {
+        int[][] last = {{0, 7, 4, 1}, {1, 7, 4, 0}, {1, 7, 4, 1}, {2, 7, '!', 0}, {3, 7, 4, 0}, {2, 7, 'a', 0}};
+        int[] values = {1234, Notes.word("abcd"), Notes.word("a"), Notes.word("abc"), 15, Notes.word("@c")};
+        for (int i = 0; i < last.length; i++) {
+            for (int signs = 0; signs < 2; signs++) {
+                NotationPress x = new NotationPress();
+                for (int slot = 0; slot < 7; slot++) {
+                    x.item(0, slot, 8, 1);
+                    x.set(slot, 0, slot);
+                }
+                if (signs == 1) x.item(5, 'S', 0, 0);
+                x.item(last[i][0], last[i][1], last[i][2], last[i][3]);
+                x.description();
+                x.set(7, 0, values[i]);
+                if (signs == 0) Due.answer("60 units", x.print(0, 0), 61);
+                else Due.state("61 units", () -> x.print(0, 0));
+                if (signs == 0) Due.answer("read()", x.read(0, 0, 0, 0), 60);
+                if (signs == 0) Due.answer("its last value", x.get(7, 0), values[i]);
+                else Due.index("an empty file", () -> x.unit(0, 0));
+            }
+        }
     }
 
     private static void printThrows() {
@@ -474,9 +503,27 @@ public final class FilesTest {
         Due.answer("two rounds without slots", x.read(2, 1, 17, 0), 21);
         Due.answer("no rounds", x.read(2, 1, 22, 0), 24);
         Due.answer("a back to what comes behind it", x.readings(3, 1, 0), 0);
+        checkDigitsOfMore();
         Due.answer("from the middle of a line", x.readings(1, 1, 11), 1);
         Due.answer("from the end", x.readings(1, 1, 25), 0);
         Due.answer("from the end anew", x.readingsAnew(1, 1, 25), 0);
+    }
+
+    /** The digits of all items ahead count in their order, those of loops and signs as well. */
+    private static void checkDigitsOfMore() {
+        NotationPress x = Notes.press(
+            Notes.items(0, 0, 1, 0, 5, 'k', 0, 0, 0, 1, 1, 0, 2, 2, '3', 0, 4, 0, 0, 0, 0, 3, 1, 0, 4, 0, 0, 0),
+            Notes.items(6, 0, 0, 0, 7, 0, 2, 0, 0, 1, 1, 0, 4, 0, 0, 0, 4, 0, 0, 0));
+        // 1, 3 * 2, 3 give 10; with 3 * 0, 4 it is 14.
+        Notes.type(x, 0, "1k2a304" + "4" + "\n" + "1k2a304" + "5" + "\n" + "1k2a314" + "4" + "\n");
+        Due.answer("right", x.read(0, 0, 0, 0), 8);
+        Due.answer("another last one", x.readings(0, 0, 9), 0);
+        Due.answer("another first one", x.readings(0, 0, 18), 0);
+        // 3, 3 * 5 give 18; 8, 3 * 6 more give 44; 4, 3 * 7 more give 69; 9 more gives 78.
+        Notes.type(x, 1, "3586479" + "8" + "\n" + "3586479" + "7" + "\n" + "3586179" + "8" + "\n");
+        Due.answer("rounds", x.read(1, 1, 0, 0), 8);
+        Due.answer("another last one", x.readingsAnew(1, 1, 9), 0);
+        Due.answer("another inside", x.readingsAnew(1, 1, 18), 0);
     }
 
     /** Wherever they end: the line end is no bound but that no item takes it. */

@@ -17,6 +17,7 @@ public final class RecordTest {
         sampleThatCanBePrinted();
         sampleOfWords();
         sampleWithoutValues();
+        sampleByTurns();
         sampleHasFiveHundredTries();
         sampleThrows();
         Due.end();
@@ -261,6 +262,24 @@ public final class RecordTest {
         x.set(0, 0, 1);
         Due.answer("sample()", x.sample(0, 0) ? 1 : 0, 1);
         Notes.isEmpty("sample() without values", x);
+    }
+
+    /** What was drawn for one description does not matter for another one. */
+    private static void sampleByTurns() {
+        NotationPress x = Notes.press(
+            Notes.items(5, 'A', 0, 0, 5, 'B', 0, 0, 6, 1, 0, 0, 7, 1, 1, 0, 3, 2, 1, 0, 0, 3, 1, 0),
+            Notes.items(0, 0, 1, 0, 0, 4, 1, 0),
+            Notes.items(5, 'A', 0, 0, 4, 0, 0, 0, 5, 'B', 0, 0));
+        for (int seed = 0; seed < 12; seed++) {
+            Due.answer("with signs and a loop", x.sample(0, seed) ? 1 : 0, 1);
+            Due.answer("the count", x.get(1, 0), number(next(seed)) % 4);
+            Due.answer("without", x.sample(1, seed) ? 1 : 0, 1);
+            Due.answer("the first value", x.get(0, 0), number(next(seed)) % 10);
+            Due.answer("the second value", x.get(4, 0), number(next(next(seed))) % 10);
+            Due.answer("none of the other", x.get(1, 0), NOTHING);
+            if (seed % 3 == 0) Due.answer("without values", x.sample(2, seed) ? 1 : 0, 1);
+            if (seed % 3 == 0) Due.answer("none", x.get(0, 0), NOTHING);
+        }
     }
 
     /** With these seeds the sample is found by the 499th, 500th, 501st and 502nd try, as PlainPress counts them. */

@@ -14,6 +14,8 @@ public final class StreamsTest {
         readingsThatEndJustThere();
         constraintsOfAStream();
         doubt();
+        doubtOfTheWholeLine();
+        doubtByTheRight();
         tooFar();
         fullTable();
         manySkipped();
@@ -168,7 +170,7 @@ public final class StreamsTest {
     }
 
     private static void doubt() {
-        NotationPress x = Notes.press(Notes.items(1, 0, 2, 2, 0, 1, 1, 0), Notes.items(2, 0, 'a', 0, 2, 1, 'a', 0));
+        NotationPress x = Notes.press(Notes.items(1, 0, 2, 2, 0, 1, 1, 0));
         Notes.type(x, 0, "aa1\nba2\nbb3\naa4\n");
         x.stream(0, 0);
         step(x, 0, READ);
@@ -183,9 +185,17 @@ public final class StreamsTest {
         Due.answer("the first right reading", x.cell(0, 0, 0, 0), Notes.word("aa"));
         Due.answer("the first right reading", x.cell(0, 1, 0, 0), Notes.word("ba"));
         Due.answer("why", x.skipped(0, 0), 3012016);
-        // Other readings end elsewhere: there is but one that ends with the line.
+        x.stream(0, 0);
+        progress(x, 0, 0, 0, 0);
+        step(x, 0, SKIPPED);
+        progress(x, 0, 0, 0, 4);
+    }
+
+    /** Readings that end elsewhere make no doubt: there is but one that ends with the line. */
+    private static void doubtOfTheWholeLine() {
+        NotationPress x = Notes.press(Notes.items(2, 0, 'a', 0, 2, 1, 'a', 0));
         Notes.type(x, 1, "aab\n" + "aa\n");
-        x.stream(1, 1);
+        x.stream(1, 0);
         step(x, 1, SKIPPED);
         step(x, 1, READ);
         progress(x, 1, 1, 0, 7);
@@ -196,7 +206,6 @@ public final class StreamsTest {
             step(y, 0, READ);
             progress(y, 0, i, Math.min(i, 9), 2 * i);
         }
-        doubtByTheRight();
     }
 
     /** Of several readings of a line, those that are not right make no doubt. */

@@ -113,7 +113,11 @@ public final class UpgradesTest {
         tells("a value", x, 0, -3, -7, -8, -27, NOTHING);
         x.set(2, 0, -4);
         tells("two values", x, 0, -3, -7, -8, -27, -304);
+        x.set(1, 0, 30000000);
+        x.set(2, 0, NOTHING);
+        tells("the first of a join", x, 0, 30000000, -7, 29999995, 270000000, NOTHING);
         x.set(1, 0, NOTHING);
+        x.set(2, 0, -4);
         tells("the other value", x, 0, NOTHING, -7, NOTHING, NOTHING, NOTHING);
     }
 
@@ -169,6 +173,11 @@ public final class UpgradesTest {
         NotationPress x = press(
             steps(SLOT, 0, 5, 0),
             steps(SLOT, 0, 1, 0, JOIN, 1, 0, 1, JOIN, 2, 1, 0, SUM, 3, 7, 3, MULTIPLE, 4, 0, 2, PLAIN, 5, 1, 0));
+        NotationPress y = press(steps(SLOT, 0, 5, 0), steps(SLOT, 0, 0, 0, SLOT, 1, 1, 0, PLAIN, 2, 3, 0, SLOT, 3, 7, 0));
+        y.compose(0, 1);
+        y.set(5, 0, 44);
+        Due.answer("two have parts", y.parts(2), 2);
+        tells("two have values", y, 2, 44, NOTHING, 3);
         Due.answer("compose(0, 1)", x.compose(0, 1), 2);
         Due.answer("only what has values has parts", x.parts(2), 2 + 1);
         record(x, 1, 1, 1, 1, 1, 9, 1, 1);
@@ -240,6 +249,7 @@ public final class UpgradesTest {
         tells("reversed", x, 1, 15, NOTHING, NOTHING, NOTHING, 11, 5, 4, 14);
         Due.answer("there and back", x.compose(0, 1), 2);
         tells("there and back", x, 2, 11, NOTHING, NOTHING, NOTHING, 16, 17, 18, 19);
+        reversesSlotsBySlots();
         Due.answer("of nothing", press(steps()).reverse(0), 1);
         Due.answer("of numbers alone", press(steps(PLAIN, 0, 5, 0)).reverse(0), 1);
         NotationPress y = press(steps(PLAIN, 0, 5, 0), steps(SUM, 3, 2, -999), steps(SUM, 3, 2, 0));
@@ -254,6 +264,19 @@ public final class UpgradesTest {
         Due.answer("back again", y.reverse(4), 6);
         y.set(2, 0, 1000);
         Due.answer("back again", y.upgraded(6, 3), 1);
+    }
+
+    private static void reversesSlotsBySlots() {
+        NotationPress x = press(steps(SLOT, 0, 4, 0, SLOT, 1, 5, 0, SLOT, 2, 3, 0, SUM, 3, 2, 6, SLOT, 4, 1, 0),
+            steps(SLOT, 0, 0, 0));
+        x.reverse(0);
+        Due.answer("its parts", x.parts(2), 6);
+        record(x, 10, 11, 12, 13, 14, 15, 16, 17);
+        tells("slots by slots", x, 2, NOTHING, 14, 7, 12, 10, 11);
+        Due.answer("compose(1, 0)", x.compose(1, 0), 3);
+        Due.answer("none of its slots is told", x.parts(3), 0);
+        Due.answer("compose(0, 2)", x.compose(0, 2), 4);
+        tells("there and back", x, 4, NOTHING, 11, 12, 13, 14, 15);
     }
 
     /** 100 times (slot 0 and 5, added), and 3 times slot 1. */
