@@ -12,6 +12,7 @@ public final class ColumnsTest {
         manyRows();
         greatNumbers();
         columnsGoOnWithTheStream();
+        columnsOfLessThanBefore();
         columnThrows();
         derivedThrows();
         Due.end();
@@ -168,6 +169,24 @@ public final class ColumnsTest {
         Due.answer("rows of the new stream", x.derived(0, 1), 15);
         Due.answer("rows of the new stream", x.derivedByBatch(0, 0), 7);
         Due.index("no third row", () -> x.derived(0, 2));
+    }
+
+    /** What the rows of the stream ahead had is not kept. */
+    private static void columnsOfLessThanBefore() {
+        NotationPress x = Notes.press(Notes.items(0, 0, 1, 0), Notes.items(5, 'k', 0, 0, 0, 0, 1, 0));
+        for (int kind = 0; kind < 4; kind++) x.column(0, kind, 0, 2);
+        Notes.type(x, 0, "9\n8\n7\nk3\nk1\nk2\n");
+        int[][] due = {{7 + 8, 8, -1, 9}, {2 + 1, 2, 1, 3}};
+        for (int d = 0; d < 2; d++) {
+            x.stream(0, d);
+            for (int i = 0; i < 6; i++) x.step(0);
+            for (int row = 0; row < 2; row++) Due.answer("none yet", x.derivedByBatch(0, row), NOTHING);
+            Due.answer("two rows earlier", x.derivedByBatch(0, 2), due[d][3]);
+            Due.answer("the total", x.derivedByBatch(1, 2), due[d][0]);
+            Due.answer("the greatest", x.derivedByBatch(2, 2), due[d][1]);
+            Due.answer("the greatest, from the row", x.derived(2, 2), due[d][1]);
+            Due.answer("the difference", x.derivedByBatch(3, 2), due[d][2]);
+        }
     }
 
     private static void columnThrows() {

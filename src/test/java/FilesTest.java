@@ -524,6 +524,12 @@ public final class FilesTest {
         Due.answer("rounds", x.read(1, 1, 0, 0), 8);
         Due.answer("another last one", x.readingsAnew(1, 1, 9), 0);
         Due.answer("another inside", x.readingsAnew(1, 1, 18), 0);
+        NotationPress y = Notes.press(Notes.items(0, 0, 1, 0, 1, 1, 2, 2, 0, 2, 1, 0, 4, 0, 0, 0));
+        Notes.type(y, 0, "1ba27\n" + "1ba25\n");
+        Due.answer("behind both words", y.readings(0, 0, 0), 2);
+        Due.answer("behind both words, anew", y.readingsAnew(0, 0, 0), 2);
+        Due.answer("behind neither", y.readings(0, 0, 6), 0);
+        Due.answer("behind neither, anew", y.readingsAnew(0, 0, 6), 0);
     }
 
     /** Wherever they end: the line end is no bound but that no item takes it. */
