@@ -12,6 +12,7 @@ public final class FindingTest {
         finds();
         findsAsRowsAreRead();
         findsAlikeInManyRows();
+        findsTheSameInAllRows();
         findThrows();
         Due.end();
     }
@@ -159,6 +160,21 @@ public final class FindingTest {
             }
             find(x, 0, 4, Notes.word(words[w]), place, -1);
         }
+    }
+
+    private static void findsTheSameInAllRows() {
+        NotationPress x = Notes.press(Notes.items(6, 0, 0, 0));
+        for (int i = 0; i < 12; i++) Notes.type(x, 1, "2\n2\n");
+        x.stream(1, 0);
+        find(x, 1, 0, 2, 0, -1);
+        for (int i = 0; i < 24; i++) {
+            x.step(1);
+            find(x, 1, 0, 2, i, i);
+            find(x, 1, 0, 2, i + 1, -1);
+        }
+        find(x, 1, 0, 2, Integer.MAX_VALUE, -1);
+        find(x, 0, 0, 2, 0, -1);
+        Due.answer("one key", x.compare(0), 10000);
     }
 
     private static void findThrows() {

@@ -18,6 +18,8 @@ public final class RecordTest {
         sampleOfWords();
         sampleWithoutValues();
         sampleByTurns();
+        sampleByTurnsWithConstraints();
+        sampleOfTwentyValues();
         sampleHasFiveHundredTries();
         sampleThrows();
         Due.end();
@@ -279,6 +281,45 @@ public final class RecordTest {
             Due.answer("none of the other", x.get(1, 0), NOTHING);
             if (seed % 3 == 0) Due.answer("without values", x.sample(2, seed) ? 1 : 0, 1);
             if (seed % 3 == 0) Due.answer("none", x.get(0, 0), NOTHING);
+        }
+    }
+
+    /** What was given up for one description does not matter for another one, or for another seed. */
+    private static void sampleByTurnsWithConstraints() {
+        NotationPress x = Notes.press(
+            Notes.items(5, 'A', 0, 0, 0, 2, 1, 0, 0, 3, 1, 0),
+            Notes.items(0, 4, 1, 0),
+            Notes.items(5, 'A', 0, 0, 5, 'B', 0, 0, 5, 'C', 0, 0, 3, 5, 8, 0));
+        x.constrain(0, 1, 2, 3, 0, 1);
+        x.constrain(0, 1, 3, 9, 0, 1);
+        x.constrain(1, 1, 4, 10, 0, 1);
+        x.constrain(2, 1, 5, 7, 0, 1);
+        for (int seed = 0; seed < 20; seed++) {
+            Due.answer("two values", x.sample(0, seed) ? 1 : 0, 1);
+            Notes.slots("two values", x, NOTHING, NOTHING, 3, 9, NOTHING, NOTHING);
+            Due.answer("none", x.sample(1, seed) ? 1 : 0, 0);
+            Due.answer("nothing changes", x.get(2, 0), 3);
+            Due.answer("one value", x.sample(2, seed) ? 1 : 0, 1);
+            Notes.slots("one value", x, NOTHING, NOTHING, NOTHING, NOTHING, NOTHING, 7);
+        }
+    }
+
+    /** With eight slots there are no more values than these: a count, two loops of three items, and one behind them. */
+    private static void sampleOfTwentyValues() {
+        NotationPress x = Notes.press(Notes.items(6, 0, 0, 0, 7, 0, 3, 0, 0, 1, 1, 0, 3, 2, 1, 0, 1, 3, 2, 1,
+            7, 0, 3, 0, 2, 4, '!', 0, 6, 5, 0, 0, 3, 6, 3, 0, 0, 7, 1, 0));
+        x.constrain(0, 1, 0, 3, 0, 1);
+        int[] many = {10, 2, 28, 28, 4, 8};
+        for (int seed = 0; seed < 8; seed++) {
+            long at = next(seed);
+            Due.answer("sample()", x.sample(0, seed) ? 1 : 0, 1);
+            Due.answer("the count", x.get(0, 0), 3);
+            for (int i = 0; i < 18; i++) {
+                at = next(at);
+                int slot = 1 + i % 3 + 3 * (i / 9);
+                Due.answer("slot " + slot, x.get(slot, i / 3 % 3), number(at) % many[slot - 1]);
+            }
+            Due.answer("the last value", x.get(7, 0), number(next(at)) % 10);
         }
     }
 

@@ -10,6 +10,8 @@ public final class StreamsTest {
         streamBeginsAnew();
         stepByStep();
         stepsAtTheEnd();
+        stepsAtTheEndOfAFullFile();
+        linesOfSixtyUnits();
         linesThatAreEmpty();
         readingsThatEndJustThere();
         constraintsOfAStream();
@@ -114,6 +116,53 @@ public final class StreamsTest {
         y.stream(1, 0);
         step(y, 1, ENDED);
         progress(y, 1, 0, 0, 0);
+    }
+
+    /** The last line ends with the 300th unit: with a line end there, or without one. */
+    private static void stepsAtTheEndOfAFullFile() {
+        for (String last : new String[] {"7;\n", " 7;", ";77"}) {
+            NotationPress x = digits();
+            Notes.type(x, 0, "z".repeat(296) + "\n" + last);
+            x.stream(0, 0);
+            step(x, 0, SKIPPED);
+            if (last.endsWith("\n")) step(x, 0, READ);
+            step(x, 0, WAITS);
+            Due.state("a full file", () -> x.type(0, 'a'));
+            x.close(0);
+            if (!last.endsWith("\n")) {
+                step(x, 0, SKIPPED);
+                Due.answer("the last entry", x.skipped(0, 1), 297300);
+            }
+            step(x, 0, ENDED);
+            progress(x, 0, last.endsWith("\n") ? 1 : 0, 0, 300);
+        }
+        NotationPress y = digits();
+        Notes.type(y, 0, "z".repeat(297) + "\n7;");
+        y.stream(0, 0);
+        step(y, 0, SKIPPED);
+        step(y, 0, WAITS);
+        y.close(0);
+        step(y, 0, READ);
+        progress(y, 0, 1, 0, 300);
+        Due.answer("stream() behind that", y.stream(0, 0), 300);
+    }
+
+    private static void linesOfSixtyUnits() {
+        for (int signs = 0; signs < 2; signs++) {
+            NotationPress x = new NotationPress();
+            for (int slot = 0; slot < 7; slot++) x.item(0, slot, 8, 1);
+            x.item(0, 7, 4, 1);
+            for (int i = 0; i < signs; i++) x.item(5, '0', 0, 0);
+            x.description();
+            Notes.type(x, 1, "0".repeat(59) + "\n" + "0".repeat(60) + "\n" + "0".repeat(61) + "\n");
+            x.stream(1, 0);
+            step(x, 1, SKIPPED);
+            step(x, 1, signs == 0 ? READ : SKIPPED);
+            step(x, 1, SKIPPED);
+            progress(x, 1, 1 - signs, 0, 183);
+            Due.answer("the first entry", x.skipped(1, 0), 60);
+            Due.answer("the last entry", x.skipped(1, 1 + signs), 121183);
+        }
     }
 
     private static void linesThatAreEmpty() {

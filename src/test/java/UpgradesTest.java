@@ -10,6 +10,7 @@ public final class UpgradesTest {
         upgrades();
         upgradedValues();
         valuesThatDoNotFit();
+        multiplesThatDoNotFit();
         composes();
         composesWithoutValues();
         composesInOrder();
@@ -19,6 +20,7 @@ public final class UpgradesTest {
         reversesByTheLowerSlot();
         reversesNot();
         reversesTooMuch();
+        reversesOneTooMuch();
         quotientsAndRests();
         eightUpgrades();
         upgradesThrow();
@@ -151,6 +153,21 @@ public final class UpgradesTest {
         tells("a part too great", x, 3, NOTHING, NOTHING);
         record(x, MOST - 999, -MOST + 999);
         tells("parts that fit", x, 3, MOST - 999, -MOST + 999);
+    }
+
+    private static void multiplesThatDoNotFit() {
+        for (int times = 2; times <= 9; times++) {
+            NotationPress x = press(steps(MULTIPLE, 0, 0, times));
+            int most = MOST / times;
+            for (int value : new int[] {0, 1, -1, most, -most}) {
+                x.set(0, 0, value);
+                Due.answer(value + ", " + times + " times", x.upgraded(0, 0), value * times);
+            }
+            for (int value : new int[] {most + 1, -most - 1, MOST, -MOST}) {
+                x.set(0, 0, value);
+                Due.answer(value + ", " + times + " times", x.upgraded(0, 0), NOTHING);
+            }
+        }
     }
 
     private static void composes() {
@@ -368,6 +385,27 @@ public final class UpgradesTest {
         Due.index("none is made", () -> y.parts(7));
         Due.answer("the one ahead can be reversed", y.reverse(2), 7);
         Due.answer("8 slots of 4 parts", y.parts(7), 32);
+    }
+
+    /** Both have slots that come to old slots through sums and joins of several depths; back, each way counts. */
+    private static void reversesOneTooMuch() {
+        NotationPress x = press(steps(SUM, 7, 3, 1, SUM, 3, 2, 1, SUM, 6, 1, 1, SUM, 2, 7, 1, SUM, 1, 0, 1, JOIN, 5, 6, 4,
+            SUM, 0, 6, 1));
+        int[][] pairs = {{0, 0}, {0, 1}, {2, 2}, {2, 3}};
+        for (int i = 0; i < 4; i++) Due.answer("compose()", x.compose(pairs[i][0], pairs[i][1]), 1 + i);
+        Due.answer("60 parts back", x.reverse(4), 5);
+        Due.answer("60 parts back", x.parts(5), 60);
+        NotationPress y = press(steps(SUM, 7, 3, 1, JOIN, 5, 1, 3, SUM, 3, 6, 1, SUM, 0, 7, 1, JOIN, 4, 4, 0, SUM, 2, 5, 1,
+            SLOT, 6, 2, 0));
+        for (int i = 0; i < 4; i++) Due.answer("compose()", y.compose(i, i == 0 ? 0 : i == 1 ? 0 : 1), 1 + i);
+        Due.answer("its parts", y.parts(4), 34);
+        Due.answer("61 parts back", y.reverse(4), -1);
+        Due.index("none is made", () -> y.parts(5));
+        y.change(SUM, 3, 3, -4);
+        Due.answer("the next one", y.upgrade(), 5);
+        Due.answer("has nothing of it", y.parts(5), 2);
+        y.set(3, 0, 10);
+        tells("the next one", y, 5, NOTHING, NOTHING, NOTHING, 6);
     }
 
     private static void quotientsAndRests() {
