@@ -25,6 +25,7 @@ public final class FilesTest {
         readingsOfMore();
         readingsOfTheWhole();
         readingsTakeTooFar();
+        readingsOfTheLastBegun();
         readingsAtMost();
         readingsThrow();
         readInOrder();
@@ -583,6 +584,28 @@ public final class FilesTest {
         Due.answer("no reading, but too far", w.readings(0, 1, 0), -1);
         Due.answer("no reading, but too far, anew", w.readingsAnew(0, 1, 0), -1);
         Due.index("no reading ahead of that", () -> w.read(0, 1, 0, 0));
+    }
+
+    /** The 392nd to the 400th item that is begun is a word with six readings; a sign ahead makes it one more item. */
+    private static void readingsOfTheLastBegun() {
+        for (int signs = 0; signs < 2; signs++) {
+            NotationPress x = new NotationPress();
+            for (int i = 0; i < signs; i++) x.item(5, 'b', 0, 0);
+            int[][] items = Notes.items(1, 0, 2, 2, 1, 1, 2, 2, 2, 2, 'a', 0, 2, 3, 'a', 0, 5, 'b', 0, 0, 1, 4, 5, 2);
+            for (int[] i : items) x.item(i[0], i[1], i[2], i[3]);
+            x.description();
+            Notes.type(x, 0, "b".repeat(signs) + "a".repeat(16) + "b" + "a".repeat(5) + "\n");
+            Due.answer("readings()", x.readings(0, 0, 0), signs == 0 ? 54 : -1);
+            Due.answer("readingsAnew()", x.readingsAnew(0, 0, 0), signs == 0 ? 54 : -1);
+            // The last of the nine beginnings is what takes too far, so that its six readings are not found.
+            Due.answer("the 48th reading", x.read(0, 0, 0, 47), 22 + signs);
+            Due.answer("its last word", x.get(4, 0), 0);
+            if (signs == 0) Due.answer("the 54th reading", x.read(0, 0, 0, 53), 22);
+            else Due.index("the 49th reading", () -> x.read(0, 0, 0, 48));
+            Due.answer("stream()", x.stream(0, 0), 0);
+            Due.answer("step()", x.step(0), signs == 0 ? 1 : 0);
+            Due.answer("progress()", x.progress(0), signs == 0 ? 11023 : 24);
+        }
     }
 
     private static void readingsAtMost() {

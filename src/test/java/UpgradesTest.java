@@ -18,6 +18,7 @@ public final class UpgradesTest {
         reverses();
         reversesInwards();
         reversesByTheLowerSlot();
+        reversesEachSlotByItself();
         reversesNot();
         reversesTooMuch();
         reversesOneTooMuch();
@@ -338,6 +339,20 @@ public final class UpgradesTest {
         tells("by the first side", x, 4, NOTHING, 123);
         Due.answer("by two slots", x.parts(5), 6);
         tells("by the lowest slots", x, 5, 456, 123, 78);
+    }
+
+    /** Slot 0 joins 5 and 1; slot 1 has 0 and 6 joined, within one sum or two: the way to one slot is none to another. */
+    private static void reversesEachSlotByItself() {
+        NotationPress x = press(steps(JOIN, 0, 5, 1, JOIN, 1, 0, 6), steps(SLOT, 0, 0, 0, SUM, 1, 1, 3));
+        for (int sums = 1; sums <= 2; sums++) {
+            Due.answer("compose()", x.compose(sums == 1 ? 0 : 2, 1), 2 * sums);
+            Due.answer("reverse()", x.reverse(2 * sums), 1 + 2 * sums);
+            Due.answer("its parts", x.parts(1 + 2 * sums), 2 + 2 + 2 * (2 + sums));
+            record(x, 1234, 5678);
+            tells(sums + " sums", x, 1 + 2 * sums, 56, 34, NOTHING, NOTHING, NOTHING, 12, 78 - 3 * sums);
+            x.set(0, 0, NOTHING);
+            tells("without slot 0", x, 1 + 2 * sums, 56, NOTHING, NOTHING, NOTHING, NOTHING, NOTHING, 78 - 3 * sums);
+        }
     }
 
     private static void reversesNot() {
